@@ -12,9 +12,9 @@ public final class EveryRunTest {
   private static int size;
 
   public static void main(String[] args) {
-    // From 0 and from 7 counted characters: the second reaches the full object within a run.
-    everyRun(0);
-    everyRun(7);
+    Check.sentence("every run of six calls on a new object", () -> everyRun(0));
+    // From here a run reaches the full object, and goes on.
+    Check.sentence("every run of six calls with 7 characters counted", () -> everyRun(7));
     Check.end();
   }
 
@@ -69,6 +69,6 @@ public final class EveryRunTest {
 
   private static long packed() {
     int length = accepted();
-    return length == 0 ? 0L : Check.packed(counted[length - 1], length);
+    return length == 0 ? 0L : counted[length - 1] * 4294967296L + length;
   }
 }

@@ -63,7 +63,7 @@ final class Check {
     dueWholeCount(when + ", accept first", made.get(), 6, 9, 25769803777L);
   }
 
-  /** Counts from the reset state until a step is refused: the first with a rule, the rest with 0. */
+  /** Counts from the reset state until a step is refused; only the first step has a rule. */
   private static void dueWholeCount(
       String when, MaxMunch x, int firstRule, int pushBack, long packed) {
     for (int count = 1; count <= 10; count++) {

@@ -13,13 +13,15 @@ public final class EmitTest {
         EmitTest::packsRuleAndLength);
     Check.sentence("The low 32 bits of the answer hold `accLen`.",
         EmitTest::lowBitsHoldTheLength);
-    Check.sentence("The next 16 bits (bits 32 to 47) hold the low 16 bits of `accRule`, taken without sign.",
+    Check.sentence("The next 16 bits (bits 32 to 47) hold the low 16 bits of `accRule`, "
+            + "taken without sign.",
         EmitTest::nextBitsHoldTheRule);
     Check.sentence("All higher bits are 0.",
         EmitTest::higherBitsAreZero);
     Check.sentence("The answer is therefore never negative.",
         EmitTest::neverNegative);
-    Check.sentence("If there was no accept since the last reset, `accRule` and `accLen` are both 0, so the answer is `0L`.",
+    Check.sentence("If there was no accept since the last reset, "
+            + "`accRule` and `accLen` are both 0, so the answer is `0L`.",
         EmitTest::withoutAccept);
     Check.sentence("The upper part is between 1 and 65535.",
         EmitTest::upperPartEdges);

@@ -106,6 +106,9 @@ public final class SkipTest {
     for (State state : State.all()) {
       MaxMunch emitted = called(state, MaxMunch::emit);
       MaxMunch skipped = skipped(state);
+      Check.due(state + ", skip(), emit()", skipped.emit(), emitted.emit());
+      emitted = called(state, MaxMunch::emit);
+      skipped = skipped(state);
       for (int i = 1; i <= 11; i++) {
         int rule = i == 3 ? 8 : 0;
         String when = state + ", skip(), step no. " + i;
@@ -129,8 +132,8 @@ public final class SkipTest {
   }
 
   private static void resetsAtEveryCount() {
-    for (int count = 0; count <= 10; count++) {
-      Check.due(count + " counted, skip(), step(0)", skipped(State.counted(count)).step(0), 1);
+    for (State state : State.all()) {
+      Check.due(state + ", skip(), step(0)", skipped(state).step(0), 1);
     }
     MaxMunch refused = State.counted(10).made();
     refused.step(4);

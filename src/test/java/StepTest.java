@@ -10,11 +10,13 @@ public final class StepTest {
   private static void whenFull() {
     Check.sentence("`step` answers -1 and changes nothing.",
         StepTest::fullRefuses);
-    Check.sentence("This holds for every value of `rule`, including ones that would otherwise mark an accept.",
+    Check.sentence("This holds for every value of `rule`, "
+            + "including ones that would otherwise mark an accept.",
         StepTest::fullRefusesEveryRule);
     Check.sentence("`cur`, `accLen` and `accRule` all stay as they were.",
         StepTest::fullKeepsItsState);
-    Check.sentence("Every further call to `step` also answers -1 until `emit` or `skip` resets the object.",
+    Check.sentence("Every further call to `step` also answers -1 "
+            + "until `emit` or `skip` resets the object.",
         StepTest::fullRefusesUntilReset);
   }
 
@@ -23,7 +25,8 @@ public final class StepTest {
         StepTest::nineStillHasRoom);
     Check.sentence("`cur` grows by one.",
         StepTest::countGrowsByOne);
-    Check.sentence("This is the low 16 bits of `rule`, read as a signed 16-bit value, exactly as a Java `(short)` cast gives it.",
+    Check.sentence("This is the low 16 bits of `rule`, read as a signed 16-bit value, "
+            + "exactly as a Java `(short)` cast gives it.",
         StepTest::ruleIsCastToShort);
     Check.sentence("`accRule` becomes `r`, and `accLen` becomes the new value of `cur`.",
         StepTest::acceptIsKept);
@@ -60,8 +63,11 @@ public final class StepTest {
 
   private static void fullRefuses() {
     for (State state : State.full()) {
-      Check.due(state + ": step(0)", state.made().step(0), -1);
-      Check.due(state + ": step(3)", state.made().step(3), -1);
+      MaxMunch x = state.made();
+      Check.due(state + ": step(3)", x.step(3), -1);
+      Check.due(state + ": step(0)", x.step(0), -1);
+      Check.due(state + ", refused twice: stuck()", x.stuck(), state.pushBack());
+      Check.due(state + ", refused twice: emit()", x.emit(), state.packed());
     }
   }
 

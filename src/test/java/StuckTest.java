@@ -15,9 +15,11 @@ public final class StuckTest {
         StuckTest::betweenZeroAndNine);
     Check.sentence("It is 0 when the most recent `step` that changed the state marked an accept.",
         StuckTest::zeroRightAfterAnAccept);
-    Check.sentence("It is 9 when the accept came at the first character and 10 characters have been counted.",
+    Check.sentence("It is 9 when the accept came at the first character "
+            + "and 10 characters have been counted.",
         StuckTest::nineAtMost);
-    Check.sentence("A `step` that answers -1 changes nothing, so it does not change what `stuck` answers.",
+    Check.sentence("A `step` that answers -1 changes nothing, "
+            + "so it does not change what `stuck` answers.",
         StuckTest::refusedStep);
     Check.end();
   }

@@ -77,11 +77,22 @@ public final class StepTest {
         Check.due(state + ": step(" + rule + ")", state.made().step(rule), -1);
       }
     }
-    MaxMunch x = State.counted(10).made();
-    for (int low = 0; low < 65536; low++) {
-      Check.due("full: step(" + low + ")", x.step(low), -1);
+    State state = new State(5, 2, 10);
+    MaxMunch x = state.made();
+    Check.due("full: rules that aren't refused", rulesNotRefused(x), 0);
+    Check.due("full, every rule refused: stuck()", x.stuck(), state.pushBack());
+    Check.due("full, every rule refused: emit()", x.emit(), state.packed());
+  }
+
+  /** Every int is tried: too many to look at each answer by itself. */
+  private static long rulesNotRefused(MaxMunch full) {
+    long notRefused = 0;
+    for (long rule = Integer.MIN_VALUE; rule <= Integer.MAX_VALUE; rule++) {
+      if (full.step((int) rule) != -1) {
+        notRefused++;
+      }
     }
-    Check.due("full, every rule refused: emit()", x.emit(), 0L);
+    return notRefused;
   }
 
   private static void fullKeepsItsState() {
